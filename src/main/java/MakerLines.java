@@ -114,7 +114,7 @@ public final class MakerLines {
             throw new IllegalStateException("the game is not open, or the cell is not free");
         }
         history.save(now);
-        now.occupy(cell, pairing.otherOf(now, cell));
+        now.occupy(cell, otherInPairing(cell));
         return now.winner();
     }
 
@@ -241,7 +241,7 @@ public final class MakerLines {
         switch (what) {
             case 0: return now.ownerOf(cell);
             case 1: return now.dangerOf(cell);
-            case 2: return pairing.otherOf(now, cell);
+            case 2: return otherInPairing(cell);
             default: return now.lines.aliveWith(cell, now.breaker);
         }
     }
@@ -303,7 +303,7 @@ public final class MakerLines {
             case 5: return winner;
             case 6: return now.lines.threats;
             case 7: return winner == OPEN ? now.forcedReply() : NONE;
-            case 8: return pairing.sizeOf(now);
+            case 8: return pairsInPairing();
             case 9: return now.freeCells();
             case 10: return now.moves;
             case 11: return now.makerWins;
@@ -357,6 +357,16 @@ public final class MakerLines {
         return snapshot >= 0 && snapshot < snapshots.length;
     }
 
+    private int pairsInPairing() {
+        pairing.lookAt(now);
+        return pairing.isFound ? pairing.size : NONE;
+    }
+
+    private int otherInPairing(int cell) {
+        pairing.lookAt(now);
+        return pairing.otherOf(cell);
+    }
+
     private int snapshotsTaken() {
         int taken = 0;
         for (int i = 0; i < snapshots.length; i++) {
@@ -372,7 +382,8 @@ public final class MakerLines {
         int made = 0;
         while (made < moves && state.winner() == OPEN) {
             int cell = cellBy(state.makerMoves ? maker : breaker, state);
-            state.occupy(cell, pairing.otherOf(state, cell));
+            pairing.lookAt(state);
+            state.occupy(cell, pairing.otherOf(cell));
             made++;
         }
         return made;
@@ -750,52 +761,48 @@ public final class MakerLines {
         }
     }
 
-    /** Looks for the pairing of a board, and keeps it for the next questions about the same board. */
+    /** The pairing of the board that was looked at last. */
     private static final class Pairing {
         private final Lines lines = new Lines();
         private int maker = 0;
         private int breaker = 0;
         private final int[] pairs = new int[MAX_CELLS / 2];
-        private int size = 0;
-        private boolean isFound = true;
+        int size = 0;
+        boolean isFound = true;
 
-        int sizeOf(State state) {
-            look(state);
-            return isFound ? size : NONE;
-        }
-
-        /** The other cell of the pair of a cell; NONE if there is none. */
-        int otherOf(State state, int cell) {
-            look(state);
-            int bit = 1 << cell;
-            for (int i = 0; i < size && i < pairs.length; i++) {
-                if ((pairs[i] & bit) != 0) {
-                    return lowestOf(pairs[i] & ~bit);
-                }
-            }
-            return NONE;
-        }
-
-        private void look(State state) {
+        void lookAt(State state) {
             if (maker != state.maker || breaker != state.breaker || !lines.areSame(state.lines)) {
                 lines.copy(state.lines);
                 maker = state.maker;
                 breaker = state.breaker;
                 size = 0;
-                isFound = pairFrom(0, 0);
+                isFound = pairFrom(0, maker | breaker);
             }
         }
 
-        /** Whether the lines from this one on can be paired, by cells that are not used so far. */
+        /** The other cell of the pair of a cell; NONE if there is none. */
+        int otherOf(int cell) {
+            for (int i = 0; i < size && i < pairs.length; i++) {
+                if ((pairs[i] & 1 << cell) != 0) {
+                    return lowestOf(pairs[i] & ~(1 << cell));
+                }
+            }
+            return NONE;
+        }
+
+        /** Whether the lines from this one on can be paired by cells that are not used so far. */
         private boolean pairFrom(int line, int used) {
             if (!lines.has(line)) {
                 return true;
             }
             int mask = lines.maskOf(line);
-            if ((mask & breaker) != 0 || holdsPair(mask)) {
+            if (!needsPair(mask)) {
                 return pairFrom(line + 1, used);
             }
-            int open = mask & ~(maker | used);
+            if (isHopeless(line, used)) {
+                return false;
+            }
+            int open = mask & ~used;
             for (int low = 0; low < MAX_CELLS; low++) {
                 for (int high = low + 1; high < MAX_CELLS; high++) {
                     int pair = (1 << low) | (1 << high);
@@ -820,9 +827,20 @@ public final class MakerLines {
             return false;
         }
 
-        private boolean holdsPair(int mask) {
+        private boolean needsPair(int mask) {
             for (int i = 0; i < size && i < pairs.length; i++) {
                 if ((pairs[i] & ~mask) == 0) {
+                    return false;
+                }
+            }
+            return (mask & breaker) == 0;
+        }
+
+        /** Whether a later line has no pair left: known early, it spares most of the tries. */
+        private boolean isHopeless(int line, int used) {
+            for (int later = line; later < MAX_LINES; later++) {
+                int mask = lines.maskOf(later);
+                if (mask != 0 && Integer.bitCount(mask & ~used) < 2 && needsPair(mask)) {
                     return true;
                 }
             }
