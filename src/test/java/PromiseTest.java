@@ -444,6 +444,11 @@ public final class PromiseTest {
         due("read: the buffer is not undone", x.clearBuffer(), 1);
         type(x, "3");
         due("read, one cell", x.read(), 5);
+        MakerLines y = board(10);
+        type(y, "0123456789;0123456789;0123456789;0123456789;0;1;2;3;4;5;6;89");
+        due("read: no error in 60 characters", y.firstError(), 60);
+        due("read, 60 characters", y.read(), 12);
+        due("read: the last one", y.line(11, 0), 768);
     }
 
     // ---- snapshots, undo
@@ -843,6 +848,9 @@ public final class PromiseTest {
     private static void promise23WeightShare() {
         share(new MakerLines(), 0.0);
         share(board(10, "0123456789"), 1.0 / 1024);
+        share(board(10, "0123456789", "0123456789"), 2.0 / 1024);
+        share(board(10, "0123456789", "0123456789", "0123456789"), 3.0 / 1024);
+        share(board(10, "012345678", "0123456789"), 3.0 / 1024);
         share(board(4, "01", "012", "3"), 0.875);
         MakerLines x = board(3, "0", "01", "12");
         share(x, 1.0);
