@@ -856,6 +856,9 @@ public final class MakerLines {
         private static final int UNKNOWN = -2;
         /** Above each length. */
         private static final int FAR = 100;
+        /** A known length, by 1 greater so that none is less than 0, takes so many bits. */
+        private static final int LENGTH_BITS = 4;
+        private static final int LENGTH_MASK = 15;
 
         private final Lines lines = new Lines();
         private int allCells = 0;
@@ -991,13 +994,16 @@ public final class MakerLines {
         }
 
         private int recall(int place) {
-            boolean isKept = place >= 0 && place < known.length && known[place] >> 4 == board;
-            return isKept ? (known[place] & 15) - 1 : UNKNOWN;
+            boolean isIn = place >= 0 && place < known.length;
+            if (isIn && known[place] >> LENGTH_BITS == board) {
+                return (known[place] & LENGTH_MASK) - 1;
+            }
+            return UNKNOWN;
         }
 
         private void keep(int place, int length) {
             if (place >= 0 && place < known.length) {
-                known[place] = (board << 4) | ((length + 1) & 15);
+                known[place] = (board << LENGTH_BITS) | ((length + 1) & LENGTH_MASK);
             }
         }
     }

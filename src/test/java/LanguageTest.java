@@ -33,6 +33,8 @@ import java.util.List;
 import java.util.Map;
 import java.util.Set;
 import java.util.TreeSet;
+import java.util.regex.Matcher;
+import java.util.regex.Pattern;
 import javax.tools.JavaCompiler;
 import javax.tools.StandardJavaFileManager;
 import javax.tools.ToolProvider;
@@ -64,6 +66,11 @@ public final class LanguageTest {
         "int count(int) IllegalArgumentException",
         "double weightShare()",
         "long digest()"};
+    /** The headings of the interface, and the calls behind each of them. */
+    private static final String HEADINGS = "---- board, lines: begin addLine removeLine clear\n"
+        + "---- moves: move skip play\n"
+        + "---- texts, snapshots: append clearBuffer firstError read take restore undo\n"
+        + "---- looks; nothing is changed: line cell reply solved ifMoved ifPlayed count weightShare digest\n";
     private static final Set<String> EXCEPTIONS = Set.of("IllegalStateException",
         "IllegalArgumentException", "IndexOutOfBoundsException");
     /** What the program calls of the library; rule 4 of LANGUAGE.md must list what is added here. */
@@ -82,6 +89,8 @@ public final class LanguageTest {
         for (char c : text.toCharArray()) {
             must(c == '\n' || c >= 32 && c < 127, "a sign of the source is " + (int) c);
         }
+        String headings = headings(text);
+        must(headings.equals(HEADINGS), "the headings of the interface: " + headings);
         CompilationUnitTree unit = parsed();
         must(unit.getImports().isEmpty() && unit.getPackage() == null, "no import, no package line");
         must(unit.getTypeDecls().size() == 1, "one class on top");
@@ -110,6 +119,22 @@ public final class LanguageTest {
                 files.getJavaFileObjects(new File(SOURCE)));
             return task.parse().iterator().next();
         }
+    }
+
+    /** Each heading of the text that has public methods behind it, with their names. */
+    private static String headings(String text) {
+        StringBuilder told = new StringBuilder();
+        for (String part : text.split("(?m)^    // (?=----)")) {
+            StringBuilder names = new StringBuilder();
+            Matcher method = Pattern.compile("(?m)^    public \\w+ (\\w+)\\(").matcher(part);
+            while (method.find()) {
+                names.append(' ').append(method.group(1));
+            }
+            if (names.length() > 0) {
+                told.append(part.split("\n")[0]).append(':').append(names).append('\n');
+            }
+        }
+        return told.toString();
     }
 
     // ---- the face, by reflection
